@@ -967,7 +967,7 @@ public final class PaneScenes {
         }
 
         int price(int lights, int number) {
-            return Math.min(lights, 3);
+            return lights < 3 ? lights : 3;
         }
 
         int waves(Stage stage, int x) {

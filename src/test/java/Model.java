@@ -376,6 +376,7 @@ final class Model {
     // the rules: a descent that throws its FAULT
 
     static final class Fault extends RuntimeException {
+        private static final long serialVersionUID = 1L;
         final int place;
 
         Fault(int place) {
