@@ -67,10 +67,10 @@ public final class PaneScenes {
             case 3: return evening.ward[k];
             case 4: return evening.shown >> k & 1;
             case 5: return lights;
-            case 6: return evening.price(k, lights);
-            case 7: return evening.nextScene(k);
+            case 6: return evening.thing(k).price(lights, k);
+            case 7: return evening.thing(k).next(evening.scene[k], evening.minute);
             case 8: return evening.will(k, lights);
-            case 9: return evening.isOpen(k, evening.price(k, lights)) ? 1 : 0;
+            case 9: return evening.isOpen(k, evening.thing(k).price(lights, k)) ? 1 : 0;
             default: return BAD;
         }
     }
@@ -854,9 +854,9 @@ public final class PaneScenes {
 
     /** A thing of KIND pane, and what the KINDS under it do where they tell nothing else; it holds nothing itself. */
     private static class Pane {
-        /** The SCENE behind a MINUTE. */
+        /** The SCENE behind a MINUTE: lights that leave the eight places on one side come in on the other. */
         int next(int scene, int minute) {
-            return turned(scene, 1);
+            return (scene << 1 | scene >> 7) & MOST_SCENE;
         }
 
         int price(int lights, int number) {
@@ -895,20 +895,15 @@ public final class PaneScenes {
             }
             return smokes(stage, x) - waves(stage, x);
         }
-
-        /** Each of the eight lights so many places (1 to 7) up, round from place 7 to place 0. */
-        static int turned(int scene, int places) {
-            return (scene << places | scene >> 8 - places) & MOST_SCENE;
-        }
     }
 
     private static final class Navvy extends Pane {
         int next(int scene, int minute) {
-            return turned(scene, 7);
+            return (scene >> 1 | scene << 7) & MOST_SCENE;
         }
 
         int price(int lights, int number) {
-            return 2 * lights;
+            return 2 * super.price(lights, number);
         }
 
         int glows(Stage stage, int x) {
@@ -921,11 +916,11 @@ public final class PaneScenes {
 
     private static class Sewer extends Pane {
         int next(int scene, int minute) {
-            return scene ^ turned(scene, 1);
+            return scene ^ super.next(scene, minute);
         }
 
         int price(int lights, int number) {
-            return lights + number;
+            return super.price(lights, number) + number;
         }
 
         int smokes(Stage stage, int x) {
@@ -963,11 +958,12 @@ public final class PaneScenes {
 
     private static class Lad extends Pane {
         int next(int scene, int minute) {
-            return turned(scene, 2);
+            return (scene << 2 | scene >> 6) & MOST_SCENE;
         }
 
         int price(int lights, int number) {
-            return lights < 3 ? lights : 3;
+            int price = super.price(lights, number);
+            return price < 3 ? price : 3;
         }
 
         int waves(Stage stage, int x) {
@@ -1133,14 +1129,6 @@ public final class PaneScenes {
             return Math.max(Integer.bitCount(scene[k]) - rags[ward[k]] - fog / 3, 0);
         }
 
-        private int price(int k, int lights) {
-            return kinds[kind[k]].price(lights, k);
-        }
-
-        private int nextScene(int k) {
-            return kinds[kind[k]].next(scene[k], minute);
-        }
-
         private boolean isOpen(int k, int price) {
             return looked[k] < bears[ward[k]] && purse >= price;
         }
@@ -1150,7 +1138,7 @@ public final class PaneScenes {
                 return false;
             }
             int lights = lights(k);
-            return lights >= 3 && isOpen(k, price(k, lights));
+            return lights >= 3 && isOpen(k, thing(k).price(lights, k));
         }
 
         private int will(int k, int lights) {
@@ -1225,7 +1213,7 @@ public final class PaneScenes {
                 return 0;
             }
             int lights = lights(k);
-            int price = price(k, lights);
+            int price = thing(k).price(lights, k);
             int will = will(k, lights);
             if (will == RAG) {
                 rags[ward[k]] = Math.min(rags[ward[k]] + 1, 9);
@@ -1245,7 +1233,7 @@ public final class PaneScenes {
 
         private void goOn(int worth) {
             for (int k = 0; k < panes; k++) {
-                scene[k] = kinds[kind[k]].next(scene[k], minute);
+                scene[k] = thing(k).next(scene[k], minute);
             }
             minute++;
             score += worth;

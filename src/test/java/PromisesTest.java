@@ -386,6 +386,7 @@ public final class PromisesTest {
             {"dog if (1<2", -111}, {"dog if not look;", -111}, {"dog if not", -110}, {"dog if 1 not < 2 look;", -109},
             {"dog if (((1<2))) and (((( 1<2", -124}, {"dog if lights<looked not;", -121}, {"dog if number", -113},
             {"dog if light<1 look;", -107}, {"dog look;\n", -109}, {"dog look;\u00ff", -109}, {"dog\tlook;", -103}, {"dog\u00e0look;", -103},
+            {"dogz look;", -100}, {"zdog look;", -100}, {"dog if 0<1 look;", 1}, {"dog if 1<123456", -109}, {"9999 look;", -100},
             {"Dog look;", -100}, {"dog if a1<2 look;", -107}, {"dog if 1<=2 look;", -109}, {"dog if minute minute", -114},
             {"dog if 1<fog2 look;", -112}, {"dog iff 1<2 look;", -104}, {"pane rag;sewer if fog=1 and(lights>2 or)pass;", -139},
         };
@@ -400,6 +401,10 @@ public final class PromisesTest {
         due("rules() of nothing takes them all", x.rules(), 0);
         due("many(1)", x.many(1), 0);
         longTexts();
+        due("200 signs", rules(x, ";".repeat(200)), -100);
+        due("200 blanks", rules(x, " ".repeat(200)), 0);
+        due("an end at 200", rules(x, "dog look;".repeat(7) + " ".repeat(134) + "dog"), -300);
+        due("a full tape", rules(x, "dog look;".repeat(7) + " ".repeat(128) + "dog look;"), 8);
     }
 
     private static void longTexts() {
@@ -441,6 +446,24 @@ public final class PromisesTest {
         for (Object[] d : due) {
             due("does it hold: " + d[0], willBy((String) d[0], 3, x), (Integer) d[1]);
         }
+        due("rules", rules(x, "pane if 0=minute rag;"), 1);
+        for (int k = 0; k < 5; k++) {
+            due("all are panes", x.paneOf(k, 8), 2);
+        }
+        String[] names = {"navvy", "sewer", "widow", "lad", "dog"};
+        int[][] under = {{0}, {1, 2}, {2}, {3, 4}, {4}};
+        for (int i = 0; i < names.length; i++) {
+            rules(x, names[i] + " pass;");
+            int set = 0;
+            int want = 0;
+            for (int k = 0; k < 5; k++) {
+                set |= x.paneOf(k, 8) << k;
+            }
+            for (int k : under[i]) {
+                want |= 1 << k;
+            }
+            due("who is a " + names[i], set, want);
+        }
         due("rules", rules(x, "sewer pass; lad rag; pane if number=0 rag;"), 3);
         int[] wills = {2, 1, 1, 2, 2};
         for (int k = 0; k < 5; k++) {
@@ -454,12 +477,17 @@ public final class PromisesTest {
         due("rules", rules(x, "dog if lights>9 rag; lad if fog=4 pass;"), 2);
         due("the first that holds", x.paneOf(4, 8), 1);
         // what is told in a MINUTE is told behind its NEWS
-        due("rules", rules(x, "pane if fog=5 pass; pane rag;"), 2);
+        due("rules", rules(x, "pane if minute>0 and fog=5 rag; pane if fog=5 pass; pane rag;"), 3);
         due("as all is now", x.paneOf(0, 8), 2);
         due("minute()", x.minute(), 0);
         due("nothing was hung", x.wardOf(0, 0), 0);
         due("minute()", x.minute(), 0);
         due("a rag was hung", x.wardOf(0, 0), 1);
+        due("rules", rules(x, "pane if minute=2 pass; pane rag;"), 2);
+        due("in minute 2", x.paneOf(0, 8), 1);
+        due("minute()", x.minute(), 0);
+        due("in minute 3", x.paneOf(0, 8), 2);
+        due("no more rags", x.wardOf(0, 0), 1);
         x.ward(0, 0, 9);
         sheetOf(x, 0, 1);
         due("rags are 9 at most", x.goAll(0, 0, 1), 0);
@@ -859,6 +887,12 @@ public final class PromisesTest {
         // 4 lights less 2 rags never show
         x.ward(1, 0, 2);
         due("visit(4, 2) behind rags", x.visit(4, 2), NONE);
+        PaneScenes four = new PaneScenes();
+        for (int k = 0; k < 4; k++) {
+            four.pane(4, 255, k);
+        }
+        due("visit(4, 15)", four.visit(4, 15), 4);
+        due("visit(3, 15)", four.visit(3, 15), NONE);
         promise = 28;
         due("bars(4, 7)", x.bars(4, 7), 1);
         due("bars(4, 5)", x.bars(4, 5), 2);
@@ -899,6 +933,10 @@ public final class PromisesTest {
         PaneScenes dark = new PaneScenes();
         dark.pane(1, 0, 0);
         due("play(4), all the same", dark.play(4), 0);
+        PaneScenes second = new PaneScenes();
+        second.pane(4, 7, 0);
+        second.pane(4, 127, 0);
+        due("play(2), asked first", second.play(2), 2);
         // from minute 1 on the other one can hang rags for the navvy
         PaneScenes y = new PaneScenes();
         y.pane(4, 7, 0);
@@ -906,6 +944,8 @@ public final class PromisesTest {
         rules(y, "navvy if minute>0 rag;");
         promise = 29;
         due("game(4)", y.game(4), valueBy(y, 4));
+        manyGames();
+        promise = 29;
         x.ends(1);
         due("game(4), one minute left", x.game(4), 13);
         x.minute();
@@ -913,6 +953,33 @@ public final class PromisesTest {
         promise = 30;
         due("play(4), over", x.play(4), NONE);
         due("play(5), over", x.play(5), BAD);
+    }
+
+    /** Few pence and few looks, so that a look now costs one later. */
+    private static void manyGames() {
+        for (int i = 0; i < 12; i++) {
+            PaneScenes x = new PaneScenes();
+            x.pane(1 + i % 5, 255 - 9 * i, 0);
+            x.pane(2 + i % 4, 63 + 11 * i, i % 2);
+            x.pane(5 - i % 3, 31 + 5 * i, 2);
+            x.lord(1, 9 + 3 * (i % 4));
+            x.ward(i % 3, 1, 1);
+            rules(x, i % 3 == 0 ? "lad if minute=1 rag; pane if fog>2 pass;" : i % 3 == 1 ? "sewer if lights>4 rag;" : "");
+            int first = -1;
+            int value = 0;
+            for (int act = 0; act <= 3; act++) {
+                int worth = valueBy(x, 3, act);
+                if (first < 0 || worth > value) {
+                    first = act;
+                    value = worth;
+                }
+            }
+            promise = 30;
+            due("play(4) of game " + i, x.play(4), first);
+            promise = 29;
+            due("game(4) of game " + i, x.game(4), value);
+            due("game(3) of game " + i, x.game(3), valueBy(x, 3));
+        }
     }
 
     private static int valueBy(PaneScenes x, int n, int... done) {
@@ -985,6 +1052,25 @@ public final class PromisesTest {
         x.report(0, 0, 8, 8);
         due("liar(), there is no such one", x.liar(), NONE);
         x.forget();
+        // one light at 1 and none by a navvy's way at 8 behind two minutes; but one at 32 would come there
+        x.report(0, 1, 1, 1);
+        x.report(0, 0, 1, 1);
+        x.report(1, 0, 1, 1);
+        x.report(1, 1, 0, 0);
+        x.report(2, 1, 8, 8);
+        due("liar(), a navvy's 32 without the first", x.liar(), 0);
+        promise = 33;
+        due("who(0): 1 goes to 128, then to 64", x.who(0), 0);
+        x.forget();
+        x.report(0, 0, 2, 4);
+        // 28 + 56 + 70 of each KIND
+        due("who(0), from least to most", x.who(0), 5 * 154);
+        x.report(0, 1, 3, 5);
+        // lower halves 3 and 5 have two lights, 4 one: 1 + 4 + 6 each with two, 4 + 6 + 4 with one
+        due("who(0), from least to most", x.who(0), 5 * (11 + 11 + 14));
+        due("who(2)", x.who(2), 3);
+        x.forget();
+        promise = 34;
         x.report(0, 1, 1, 1);
         x.report(0, 1, 0, 1);
         x.report(0, 1, 2, 15);
@@ -1056,10 +1142,33 @@ public final class PromisesTest {
         }
         due("times(40, 999)", y.times(40, 999), 0);
         due("times(1, 0)", y.times(1, 0), 1);
+        manyLots();
         PaneScenes none = new PaneScenes();
         promise = 36;
         due("lot() without panes", none.lot(), 0);
         due("z goes on", none.seed(0), 1103527590);
+    }
+
+    /** The ACTS of a row of lots, by goAll() of the same ACTS. */
+    private static void manyLots() {
+        promise = 36;
+        for (int panes = 1; panes <= 6; panes++) {
+            PaneScenes x = new PaneScenes();
+            PaneScenes y = new PaneScenes();
+            for (int k = 0; k < panes; k++) {
+                x.pane(4, 255 - k, k);
+                y.pane(4, 255 - k, k);
+            }
+            int z = 7 * panes;
+            x.seed(z);
+            for (int m = 0; m < 12; m++) {
+                z = z * 1103515245 + 12345;
+                sheetOf(y, 0, (z >>> 16) % (panes + 1));
+                due("lot() " + m + " of " + panes + " panes", x.lot(), y.goAll(0, 0, 1));
+                due("shown", x.state(4), y.state(4));
+            }
+            due("z", x.seed(0), z);
+        }
     }
 
     private static void rowCalls() {
@@ -1408,9 +1517,12 @@ public final class PromisesTest {
             state[what] = x.state(what);
         }
         int scene = x.paneOf(1, 1);
+        due("a score", state[2] > 0 ? 1 : 0, 1);
+        int strangers = x.who(0);
         x.seed(3);
         rules(x, "dog look; dog look;");
         x.forget();
+        x.report(0, 0, 0, 8);
         x.news(5, 1);
         x.ward(3, 0, 0);
         x.ward(3, 1, 1);
@@ -1437,6 +1549,7 @@ public final class PromisesTest {
         due("panes", x.many(0), 2);
         due("rules", x.many(1), 1);
         due("reports", x.many(3), 1);
+        due("strangers by the report kept", x.who(0), strangers);
         due("scene", x.paneOf(1, 1), scene);
         due("ward", x.paneOf(0, 3), 0);
         due("looked", x.paneOf(0, 2), 1);
