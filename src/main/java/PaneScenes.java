@@ -8,9 +8,9 @@ public final class PaneScenes {
     private static final int MOST_PANES = 6, WARDS = 6, MOST_MINUTES = 16, MOST_SCENE = 255, MOST_REPORTS = 6;
     private static final int LONGEST_PLAN = 4, ROW_SIZE = 3, REPORT_SIZE = 4;
     private static final int SHEETS = 4, SHEET_SIZE = 40, MOST_ITEMS = 20, SHELVES = 4;
-    private static final int MISSING = -1, BYTES = 0, SHORTS = 1, LONGS = 3, BOOLEANS = 4;
+    private static final int MISSING = -1, BYTES = 0, SHORTS = 1, BOOLEANS = 4;
     private static final int HOLDS_NOTHING = 0, HOLDS_PANE = 1, HOLDS_ROW = 2;
-    private static final int LOOK = 0, PASS = 1, RAG = 2;
+    private static final int LOOK = 0, RAG = 2;
     private static final int FIRST_PURSE = 60;
 
     /** For each KIND the set of those that are it or above it. */
@@ -261,36 +261,24 @@ public final class PaneScenes {
     }
 
     public int sceneFor(int k) {
-        if (!isPane(k)) {
-            return BAD;
-        }
-        int best = 0;
-        int most = -1;
-        for (int scene = 0; scene <= MOST_SCENE; scene++) {
-            trial.become(evening);
-            trial.scene[k] = scene;
-            int worth = trial.goRestFor(MOST_MINUTES);
-            if (worth > most) {
-                most = worth;
-                best = scene;
-            }
-        }
-        return best;
+        return isPane(k) ? bestFor(k, trial.scene, MOST_SCENE) : BAD;
     }
 
     public int wardFor(int k) {
-        if (!isPane(k)) {
-            return BAD;
-        }
+        return isPane(k) ? bestFor(k, trial.ward, WARDS - 1) : BAD;
+    }
+
+    /** The least of 0 to last with which, put in a row of the trial for a PANE, THE REST is WORTH most. */
+    private int bestFor(int k, int[] row, int last) {
         int best = 0;
         int most = -1;
-        for (int f = 0; f < WARDS; f++) {
+        for (int v = 0; v <= last; v++) {
             trial.become(evening);
-            trial.ward[k] = f;
+            row[k] = v;
             int worth = trial.goRestFor(MOST_MINUTES);
             if (worth > most) {
                 most = worth;
-                best = f;
+                best = v;
             }
         }
         return best;
@@ -680,16 +668,13 @@ public final class PaneScenes {
     }
 
     public int goAll(int sheet, int i, int n) {
-        if (!isSheet(sheet) || !isWithin(n, MOST_ITEMS)) {
-            return BAD;
-        }
-        int refusal = refusalAs(sheet, BYTES);
+        int refusal = refusalOfActs(sheet, n);
         if (refusal < 0) {
             return refusal;
         }
         int worth = 0;
         for (int gone = 0; gone < n; gone++) {
-            // i + gone can't wrap: a place this far out was refused at the first item
+            // gone is taken from the size, not added to i, which could wrap
             if (i < 0 || i >= sheetSizes[sheet] - gone) {
                 return OUTSIDE;
             }
@@ -702,10 +687,7 @@ public final class PaneScenes {
     }
 
     public int wouldBe(int sheet, int i, int n) {
-        if (!isSheet(sheet) || !isWithin(n, MOST_ITEMS)) {
-            return BAD;
-        }
-        int refusal = refusalAs(sheet, BYTES);
+        int refusal = refusalOfActs(sheet, n);
         if (refusal < 0) {
             return refusal;
         }
@@ -722,6 +704,10 @@ public final class PaneScenes {
             worth += trial.go(act);
         }
         return worth;
+    }
+
+    private int refusalOfActs(int sheet, int n) {
+        return isSheet(sheet) && isWithin(n, MOST_ITEMS) ? refusalAs(sheet, BYTES) : BAD;
     }
 
     private static boolean isSheet(int sheet) {

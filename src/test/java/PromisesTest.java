@@ -401,6 +401,9 @@ public final class PromisesTest {
         due("rules() of nothing takes them all", x.rules(), 0);
         due("many(1)", x.many(1), 0);
         longTexts();
+        rules(x, "9".repeat(60) + "a".repeat(60));
+        due("a number at the end, behind a longer tape", rules(x, "dog if 1"), -108);
+        due("a name at the end, behind a longer tape", rules(x, " ".repeat(61) + "dog look;" + " ".repeat(27) + "dog"), -200);
         due("200 signs", rules(x, ";".repeat(200)), -100);
         due("200 blanks", rules(x, " ".repeat(200)), 0);
         due("an end at 200", rules(x, "dog look;".repeat(7) + " ".repeat(134) + "dog"), -300);
@@ -1051,6 +1054,15 @@ public final class PromisesTest {
         due("liar(), the odd one", x.liar(), 0);
         x.report(0, 0, 8, 8);
         due("liar(), there is no such one", x.liar(), NONE);
+        x.forget();
+        // but for the third a dog's 0: 15 behind 3 minutes
+        x.report(0, 0, 0, 0);
+        x.report(3, 1, 15, 15);
+        x.report(3, 0, 5, 5);
+        x.report(0, 1, 0, 0);
+        x.report(1, 1, 0, 0);
+        x.report(2, 0, 0, 0);
+        due("liar(), by a dog alone", x.liar(), 2);
         x.forget();
         // one light at 1 and none by a navvy's way at 8 behind two minutes; but one at 32 would come there
         x.report(0, 1, 1, 1);
