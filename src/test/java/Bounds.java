@@ -89,10 +89,13 @@ abstract class Bounds {
         return tests;
     }
 
-    /** The words of a part of the document ("Promise 2", "Terms", "Terms 1"), with single blanks alone. */
+    /** The words of a part of the document ("What it is", "Promise 2", "Terms", "Terms 1"), with single blanks alone. */
     static String part(String name) throws Exception {
         String text = Files.readString(DOCUMENT, StandardCharsets.UTF_8).replace("```text", " ").replace("```", " ").replaceAll("\\s+", " ");
-        String from = name.equals("Terms") ? "## Terms " : name.startsWith("Terms ") ? "======== " + name.substring(6) + " " : "## " + name + ": ";
+        String from = "## " + name + (name.startsWith("Promise ") ? ": " : " ");
+        if (name.startsWith("Terms ")) {
+            from = "======== " + name.substring("Terms ".length()) + " ";
+        }
         String to = name.startsWith("Terms") ? name.equals("Terms 3") ? "Ahead of the calls `pane`" : "========" : "## ";
         int begins = text.indexOf(from);
         if (begins < 0) {

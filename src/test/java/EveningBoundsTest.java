@@ -4,6 +4,14 @@ public final class EveningBoundsTest extends Bounds {
         holdAll(EveningBoundsTest.class);
     }
 
+    @Remark("What it is: An object is used for at most 512 calls after it has been made")
+    void theLastOf512Calls() {
+        run(with(times(511, "many(0) = 0"), "state(1) = 12"));
+        // the dearest ones, too
+        String[] six = {"pane(4, 255, 0) = 0", "pane(4, 255, 1) = 1", "pane(4, 255, 2) = 2", "pane(4, 255, 3) = 3", "pane(4, 255, 4) = 4", "pane(4, 255, 5) = 5"};
+        run(with(six, with(times(505, "best(4) = 50"), "ways(4) = 360")));
+    }
+
     // ---- Terms
 
     @Remark("Terms: Answers below 0, where not told otherwise, are refusals; such a call changes nothing")
@@ -26,6 +34,15 @@ public final class EveningBoundsTest extends Bounds {
     void noSuchThing() {
         inHouse("paneOf(5, 0) ! -1", "paneOf(-1, 0) ! -1", "paneOf(0, 10) ! -1", "paneOf(4, 0) ? 3");
         inHouse("paneOf(MAX, MAX) ! -1", "paneOf(MIN, MIN) ! -1");
+    }
+
+    @Remark("Terms: FULL (-2); NONE (-3); STATE (-4)")
+    void numbersOfRefusals() {
+        check(PaneScenes.BAD == -1, "BAD is not -1");
+        check(PaneScenes.FULL == -2, "FULL is not -2");
+        check(PaneScenes.NONE == -3, "NONE is not -3");
+        check(PaneScenes.STATE == -4, "STATE is not -4");
+        inHouse("pane(9, 0, 0) ! -1", "pane(1, 0, 0) = 5", "pane(1, 0, 0) ! -2", "trace(11) ! -3", "ends(1) = 12", "lot() ! -4");
     }
 
     @Remark("Terms: Sets are told by bits.")
@@ -145,6 +162,21 @@ public final class EveningBoundsTest extends Bounds {
             with(times(9, "goAll(0, 0, 1) = 0"), "paneOf(0, 2) ? 9", "goAll(0, 0, 1) = 0", "paneOf(0, 2) ? 9")));
     }
 
+    @Remark("Terms 1: a KIND, .. a WARD; LOOKED at")
+    void aWardOfSix() {
+        run("pane(1, 7, 0) = 0", "pane(1, 7, 5) = 1", "paneOf(0, 3) ? 0", "paneOf(1, 3) ? 5", "pane(1, 7, 6) ! -1", "pane(1, 7, -1) ! -1", "many(0) ? 2",
+            "change(0, 3, 6) ! -1", "change(0, 3, -1) ! -1", "change(0, 3, 5) = 0");
+    }
+
+    @Remark("Terms 1: KINDS: 0 pane; 1 navvy, 2 sewer, 4 lad (under pane); 3 widow (under sewer); 5 dog (under lad).")
+    void kindsUnderKinds() {
+        // each is taken for itself and for those above it; none is a pane alone, and there is no KIND beyond 5
+        run("pane(1, 0, 0) = 0", "shelf(0, 0, 0) = 1", "taken(0, 0) ? 0", "taken(0, 1) ? 0", "taken(0, 2) ! -13", "taken(0, 5) ! -13", "remake(0, 2) = 1", "taken(0, 0) ? 0",
+            "taken(0, 2) ? 0", "taken(0, 3) ! -13", "remake(0, 3) = 2", "taken(0, 0) ? 0", "taken(0, 2) ? 0", "taken(0, 3) ? 0", "taken(0, 4) ! -13");
+        run("pane(4, 0, 0) = 0", "shelf(0, 0, 0) = 1", "taken(0, 0) ? 0", "taken(0, 4) ? 0", "taken(0, 5) ! -13", "remake(0, 5) = 4", "taken(0, 0) ? 0", "taken(0, 4) ? 0",
+            "taken(0, 5) ? 0", "taken(0, 3) ! -13", "taken(0, 2) ! -13", "taken(0, 1) ! -13", "remake(0, 0) ! -1", "remake(0, 6) ! -1", "pane(0, 0, 0) ! -1", "pane(6, 0, 0) ! -1");
+    }
+
     // ---- Terms 1: scenes that go on
 
     @Remark("Terms 1: (a light that goes beyond place 7 comes to place 0, and the other way)")
@@ -162,6 +194,33 @@ public final class EveningBoundsTest extends Bounds {
     void navvyGoesRound() {
         run("pane(1, 4, 0) = 0", "ends(9) = 12", "minute() = 0", "paneOf(0, 1) ? 2", "minute() = 0", "paneOf(0, 1) ? 1", "minute() = 0", "paneOf(0, 1) ? 128",
             "minute() = 0", "minute() = 0", "minute() = 0", "minute() = 0", "minute() = 0", "paneOf(0, 1) ? 4");
+    }
+
+    @Remark("Terms 1: pane: each light one place up.")
+    void paneGoesUpBySewer() {
+        // there is no PANE of KIND pane; a sewer's SCENE behind a MINUTE, ^ what it was, is a pane's, place by place and round
+        for (int place = 0; place < 8; place++) {
+            int light = 1 << place;
+            int up = place == 7 ? 1 : 2 * light;
+            run("pane(2, " + light + ", 0) = 0", "paneOf(0, 7) ? " + (light ^ up), "change(0, 1, " + (255 - light) + ") = " + light, "paneOf(0, 7) ? " + (light ^ up));
+        }
+    }
+
+    @Remark("Terms 1: sewer: s ^ what it is of a pane.")
+    void sewerGoesDark() {
+        // 1 has all lights behind seven MINUTES and none behind eight; dark and full ones are dark
+        int[] scenes = {3, 5, 15, 17, 51, 85, 255, 0, 0};
+        Run run = new Run("pane(2, 1, 0) = 0", "change(0, 4, 1) = 0");
+        for (int scene : scenes) {
+            run.go("minute() = 0", "paneOf(0, 1) ? " + scene);
+        }
+        take(run);
+    }
+
+    @Remark("Terms 1: lad: each two places up.")
+    void ladGoesRound() {
+        run("pane(4, 1, 0) = 0", "minute() = 0", "paneOf(0, 1) ? 4", "minute() = 0", "paneOf(0, 1) ? 16", "minute() = 0", "paneOf(0, 1) ? 64", "minute() = 0", "paneOf(0, 1) ? 1");
+        run("pane(4, 2, 0) = 0", "minute() = 0", "paneOf(0, 1) ? 8", "minute() = 0", "paneOf(0, 1) ? 32", "minute() = 0", "paneOf(0, 1) ? 128", "minute() = 0", "paneOf(0, 1) ? 2");
     }
 
     @Remark("Terms 1: widow: as sewer, but the other lights (255 less that) in odd MINUTES.")
@@ -421,6 +480,20 @@ public final class EveningBoundsTest extends Bounds {
         run("pane(1, 0, 0) = 0", "pane(1, 255, 5) = 1", "paneOf(1, 1) ? 255", "paneOf(1, 3) ? 5");
     }
 
+    @Remark("Promise 3: Of a PANE: what = 0 KIND, 1 SCENE, 2 how often it was LOOKED at, 3 WARD")
+    void paneOfFirstAndLast() {
+        String[] six = {"pane(5, 255, 5) = 0", "pane(1, 1, 1) = 1", "pane(1, 1, 1) = 2", "pane(1, 1, 1) = 3", "pane(1, 1, 1) = 4", "pane(1, 0, 0) = 5"};
+        run(with(six, "change(0, 2, 9) = 0", "paneOf(0, 0) ? 5", "paneOf(0, 1) ? 255", "paneOf(0, 2) ? 9", "paneOf(0, 3) ? 5", "paneOf(5, 0) ? 1", "paneOf(5, 1) ? 0",
+            "paneOf(5, 2) ? 0", "paneOf(5, 3) ? 0", "paneOf(6, 0) ! -1", "paneOf(0, -1) ! -1"));
+    }
+
+    @Remark("Promise 3: 5 LIGHTS, 6 what it ASKS for these")
+    void paneOfLightsAndAsks() {
+        // for its LIGHTS, not for those in its SCENE: none are left of eight
+        run("pane(1, 255, 0) = 0", "paneOf(0, 5) ? 8", "paneOf(0, 6) ? 16", "ward(0, 0, 7) = 0", "paneOf(0, 5) ? 1", "paneOf(0, 6) ? 2", "lord(0, 3) = 0", "paneOf(0, 5) ? 0",
+            "paneOf(0, 6) ? 0", "lord(0, 9) = 3", "paneOf(0, 5) ? 0", "paneOf(0, 6) ? 0");
+    }
+
     @Remark("Promise 3: 4 1 if it is SHOWN, else 0")
     void paneOfShown() {
         run("pane(1, 7, 0) = 0", "pane(1, 7, 1) = 1", "change(1, 4, 1) = 0", "paneOf(0, 4) ? 0", "paneOf(1, 4) ? 1");
@@ -514,6 +587,22 @@ public final class EveningBoundsTest extends Bounds {
         alike(with(HOUSE, "anew() = 1", "anew() = 0"), with(HOUSE, "anew() = 1"));
         run(with(HOUSE, "anew() = 1", "many(0) ? 5", "many(1) ? 2", "many(3) ? 3", "many(4) ? 2", "news(1, 9) = 9", "seed(5) = 5", "wardOf(1, 1) ? 5",
             "wardOf(0, 0) ? 1", "item(0, 0, 3) ? 4", "taken(3, 3) ? 4"));
+    }
+
+    @Remark("Promise 12: What = 0 MINUTE, 1 END, 2 SCORE")
+    void stateAtFirstAndLast() {
+        run("state(0) ? 0", "state(1) ? 12", "state(2) ? 0", "state(-1) ! -1");
+        run(with(new String[] {"pane(4, 255, 0) = 0", "ends(16) = 12", "minute() = 13"}, with(times(15, "minute() = 0"), "state(0) ? 16", "state(1) ? 16", "state(2) ? 13")));
+    }
+
+    @Remark("Promise 12: 4 PANES that are SHOWN, as a set")
+    void stateOfNoneToAllShown() {
+        String[] six = {"pane(1, 0, 0) = 0", "pane(1, 0, 0) = 1", "pane(1, 0, 0) = 2", "pane(1, 0, 0) = 3", "pane(1, 0, 0) = 4", "pane(1, 0, 0) = 5", "state(4) ? 0"};
+        Run run = new Run(six);
+        for (int k = 5; k >= 0; k--) {
+            run.go("change(" + k + ", 4, 1) = 0", "state(4) ? " + (64 - (1 << k)));
+        }
+        take(run.go("change(3, 4, 0) = 1", "state(4) ? 55"));
     }
 
     @Remark("Promise 12: 3 1 if it is OVER, else 0")

@@ -19,6 +19,14 @@ public final class HostBoundsTest extends Bounds {
         take(run.go("trace(" + bodies.length + ") ! -3", "trace(-1) ! -3"));
     }
 
+    // ---- Terms: what the host refuses
+
+    @Remark("Terms: -11 nothing where something is asked, -12 a place outside, -13 a thing of another sort or kind, -14 a size below 0, -15 parted by 0.")
+    void refusalsOfTheHost() {
+        inHouse("item(2, 0, 0) ! -11", "taken(2, 0) ! -11", "item(0, 0, 5) ! -12", "item(1, 1, 0) ! -13", "taken(0, 3) ! -13", "sheet(0, 0, -1) ! -14");
+        acts(5, 2, "9", "-15", 12);
+    }
+
     // ---- Terms 3: acts
 
     @Remark("Terms 3: ACTS of a thing by its KIND, with a number x (ints that wrap): 0 glows, 1 smokes, 2 waves, 3 begs.")
@@ -227,6 +235,12 @@ public final class HostBoundsTest extends Bounds {
         run("sheet(0, 0, 0) = 1", "goAll(0, 0, 0) = 0", "goAll(0, 0, 1) ! -12");
     }
 
+    @Remark("Promise 45: what these MINUTES were WORTH together.")
+    void goAllTogether() {
+        // of none 0; what MINUTES ahead of them were WORTH counts nothing
+        run(with(ACTS, "minute() = 13", "goAll(0, 0, 0) = 0", "goAll(0, 5, 1) = 9", "state(2) ? 22", "goAll(0, 5, 2) = 8", "state(2) ? 30"));
+    }
+
     @Remark("Promise 45: (what is none, or when it is OVER, is left out)")
     void goAllLeavesOut() {
         // 3 and -1 are no ACTS of two PANES: no MINUTE goes by
@@ -370,7 +384,8 @@ public final class HostBoundsTest extends Bounds {
     void keptAndNotKept() {
         // what is changed of the evening comes back, what is changed of the others stays
         String[] evening = {"pane(1, 9, 5) = 5", "remake(0, 4) = 1", "change(1, 1, 33) = 90", "change(2, 2, 8) = 0", "change(3, 3, 5) = 0", "change(4, 4, 1) = 0", "news(0, 1) = 4", "news(15, 1) = 6",
-            "ward(0, 0, 7) = 1", "ward(5, 1, 7) = 3", "lord(0, 9) = 1", "lord(1, 999) = 54", "ends(16) = 12", "minute() = 9", "report(5, 0, 8, 8) = 3", "seed(-4) = 5",
+            "ward(0, 0, 7) = 1", "ward(5, 1, 7) = 3", "lord(0, 9) = 1", "lord(1, 999) = 54", "ends(16) = 12", "minute() = 9", "forget() = 3", "report(5, 0, 8, 8) = 0", "report(0, 0, 1, 1) = 1",
+            "report(0, 1, 2, 2) = 2", "report(1, 1, 3, 3) = 3", "report(2, 1, 4, 4) = 4", "report(3, 1, 5, 5) = 5", "seed(-4) = 5",
             "tape pane rag;", "rules() = 1"};
         String[] others = {"prove(3) = 3", "alterRow(0, 0, 44) = any", "sheet(0, 1, 9) = 1", "write(0, 8, 300) = 1", "sheet(2, 3, 2) = 1", "shelf(1, 0, 0) = 1", "shelf(2, 1, 2) = 1",
             "shelf(3, 2, 0) = 1", "act(1, 1, 3) = any", "tape dog look;"};

@@ -152,6 +152,7 @@ public final class MinutesBoundsTest extends Bounds {
             "when(MIN) ! -1", "ends(2) = 12", "when(1) ? 1", "ends(1) = 2", "when(1) ! -3", "when(0) ? 0", "minute() = 8", "when(0) ! -3", "when(1) ! -3", "ends(2) = 1",
             "when(1) ? 1");
         // the first and the last MINUTE; SHOWN now, though by no look
+        run("pane(4, 7, 0) = 0", "pane(4, 7, 1) = 1", "change(1, 4, 1) = 0", "when(1) ! -3", "when(0) ? 0", "change(0, 4, 1) = 0", "change(1, 4, 0) = 1", "when(1) ? 0", "when(0) ! -3");
         run(with(LATE, "when(0) ? 15", "ends(15) = 16", "when(0) ! -3", "ends(16) = 15", "change(0, 4, 1) = 0", "when(0) ! -3"));
     }
 
@@ -195,6 +196,9 @@ public final class MinutesBoundsTest extends Bounds {
         inHouse("companies(-2) ! -1", "companies(5) ! -1", "companies(6) ! -1", "companies(MAX) ! -1", "companies(MIN) ! -1", "companies(0) ? 0", "companies(4) ? 18",
             "pane(1, 0, 5) = 5", "companies(5) ? 32", "companies(6) ! -1");
         run("companies(-1) ? 0", "companies(0) ! -1");
+        // each that is SHOWN, up to the last one
+        run("pane(1, 0, 0) = 0", "pane(1, 0, 0) = 1", "pane(1, 0, 0) = 2", "pane(1, 0, 0) = 3", "pane(1, 0, 0) = 4", "pane(1, 0, 0) = 5", "companies(5) ? 63", "change(5, 4, 1) = 0",
+            "companies(5) ? 0", "companies(0) ? 31", "change(1, 4, 1) = 0", "companies(1) ? 0", "companies(4) ? 29");
     }
 
     @Remark("Promise 23: TOUR from a SCENE (0 to 255): what 0 how many lights, 1 the first PANE. BAD; NONE (what 1): all are SHOWN.")

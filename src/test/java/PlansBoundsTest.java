@@ -43,6 +43,8 @@ public final class PlansBoundsTest extends Bounds {
         // two alike: the lesser PANE; nothing to look at: none is told
         run("pane(4, 7, 0) = 0", "pane(4, 7, 1) = 1", "ways(1) ? 2", "ith(1, 0) ? 1", "best(2) ? 16", "ways(2) ? 2", "ith(2, 0) ? 1", "ith(2, 1) ? 2");
         run("pane(1, 0, 0) = 0", "best(4) ? 0", "ways(4) ? 16", "ith(4, 0) ? 0", "ith(4, 3) ? 0");
+        // nothing any more, where there was something to look at
+        run(with(TWO_LADS, "ith(2, 0) ? 1", "ith(2, 1) ? 2", "change(0, 1, 0) = 255", "change(1, 1, 0) = 15", "best(2) ? 0", "ways(2) ? 9", "ith(2, 0) ? 0", "ith(2, 1) ? 0"));
         // a purse for one look at one of two: the better one, though its number is greater
         run("pane(1, 7, 0) = 0", "pane(1, 15, 1) = 1", "lord(1, 8) = 60", "best(1) ? 9", "ith(1, 0) ? 2", "ways(1) ? 1");
     }

@@ -4,7 +4,7 @@ import java.lang.annotation.RetentionPolicy;
 import java.lang.annotation.Target;
 
 /**
- * Which sentence of the document a test holds the class against: the part ("Promise 2", "Terms", "Terms 1" to "Terms 3"), ": " and
+ * Which sentence of the document a test holds the class against: the part ("What it is", "Promise 2", "Terms", "Terms 1" to "Terms 3"), ": " and
  * its words as they stand there (" .. " where some are left out). Bounds looks them up in the document.
  */
 @Retention(RetentionPolicy.RUNTIME)

@@ -24,11 +24,41 @@ public final class RulesBoundsTest extends Bounds {
             "tape pane if " + condition + " rag;", "rules() = 1", "paneOf(5, 8) ? " + (so ? 2 : 0));
     }
 
+    /** A condition of A, B and C, by all that these can be; on one object, where each text comes in place of the one ahead. */
+    private void truths(String condition, Truth truth) {
+        Run run = new Run("pane(4, 0, 0) = 0");
+        for (int set = 0; set < 8; set++) {
+            boolean a = (set & 1) != 0;
+            boolean b = (set & 2) != 0;
+            boolean c = (set & 4) != 0;
+            String text = condition.replace("A", a ? "3>2" : "3<3").replace("B", b ? "4=4" : "4=3").replace("C", c ? "2<5" : "4>4");
+            run.go("tape lad if " + text + " rag;", "rules() = 1", "paneOf(0, 8) = " + (truth.of(a, b, c) ? 2 : 0));
+        }
+        take(run);
+    }
+
+    private interface Truth {
+        boolean of(boolean a, boolean b, boolean c);
+    }
+
+    // ---- Terms: what rules() changes, when it is refused
+
+    @Remark("Terms: (but that THE TAPE is used up by rules())")
+    void refusedRulesUseTheTapeUp() {
+        faulty("cat rag;", 0);
+        run(with(HOUSE, "tape cat rag;", "many(5) ? 8", "rules() = -100", "many(5) ? 0", "many(1) ? 2", "rules() = 0", "many(1) ? 0"));
+        // other refused calls leave THE TAPE
+        inHouse("many(5) ? 8", "feed(0, 9) ! -1", "pane(9, 9, 9) ! -1", "many(5) ? 8");
+    }
+
     // ---- Terms 2: the tape and the text
 
     @Remark("Terms 2: THE TAPE takes bytes, 200 at most")
     void tapeOfTwoHundred() {
         run("tape " + " ".repeat(199), "many(5) ? 199", "feed(32, 1) = 200", "many(5) ? 200", "feed(32, 1) ! -2", "many(5) ? 200");
+        // as many signs as bytes
+        faulty(";".repeat(200), 0);
+        faulty("dog if " + "(1<2)and".repeat(24) + "1", 200);
     }
 
     @Remark("Terms 2: rules() uses it up.")
@@ -38,6 +68,7 @@ public final class RulesBoundsTest extends Bounds {
             "many(5) ? 0", "tape " + " ".repeat(200), "feed(32, 1) ! -2", "rules() = 0", "feed(32, 1) = 1");
         // nothing of an earlier text stays behind a shorter one
         run("tape dog rag;dog rag;", "rules() = 2", "tape dog", "rules() = -103", "tape dog if 1", "rules() = -108");
+        run("tape " + "9".repeat(30), "rules() = -100", "tape dog if 1", "rules() = -108", "tape " + "z".repeat(30), "rules() = -100", "tape dog", "rules() = -103");
     }
 
     @Remark("Terms 2: TEXT: { KIND DO ; | KIND if COND DO ; }, 8 RULES at most.")
@@ -82,6 +113,8 @@ public final class RulesBoundsTest extends Bounds {
         for (String other : new String[] {"pane", "not", "minute", "or", "7", ";", "("}) {
             faulty("pane " + other + ";", 5);
         }
+        faulty("pane if 1=1 if;", 12);
+        faulty("pane if 1=1 dog;", 12);
     }
 
     @Remark("Terms 2: COND: ALL { or ALL }")
@@ -93,6 +126,8 @@ public final class RulesBoundsTest extends Bounds {
         holds("1=2 or 1=2", false);
         holds("1=2 or 1=2 or 1=2 or 1=1", true);
         holds("1=2 or 1=2 or 1=2 or 1=2", false);
+        truths("A or B or C", (a, b, c) -> a || b || c);
+        truths("A or(B or C)", (a, b, c) -> a || b || c);
         faulty("dog if 1=1 or rag;", 14);
         faulty("dog if or 1=1 rag;", 7);
         faulty("dog if 1=1 or or 1=1 rag;", 14);
@@ -110,6 +145,12 @@ public final class RulesBoundsTest extends Bounds {
         holds("1=2 and 1=1 or 1=1", true);
         holds("(1=1 or 1=1) and 1=2", false);
         holds("1=2 and (1=1 or 1=1)", false);
+        truths("A and B and C", (a, b, c) -> a && b && c);
+        truths("A and B or C", (a, b, c) -> a && b || c);
+        truths("A or B and C", (a, b, c) -> a || b && c);
+        truths("(A or B)and C", (a, b, c) -> (a || b) && c);
+        truths("A and(B or C)", (a, b, c) -> a && (b || c));
+        truths("A and B or B and C or C and A", (a, b, c) -> a && b || b && c || c && a);
         faulty("dog if 1=1 and rag;", 15);
         faulty("dog if and 1=1 rag;", 7);
         faulty("dog if 1=1 and or 1=1 rag;", 15);
@@ -128,6 +169,12 @@ public final class RulesBoundsTest extends Bounds {
         holds("not 1=1 or 1=1", true);
         holds("not (1=1 or 1=1)", false);
         holds("1=1 and not 1=2", true);
+        truths("not A and B or C", (a, b, c) -> !a && b || c);
+        truths("not A or not B and not C", (a, b, c) -> !a || !b && !c);
+        truths("not A and not B and not C", (a, b, c) -> !a && !b && !c);
+        truths("not not A and not not not B", (a, b, c) -> a && !b);
+        truths("not(A and B)or not C", (a, b, c) -> !(a && b) || !c);
+        truths("not(A or not(B and not(C)))", (a, b, c) -> !(a || !(b && !c)));
         faulty("dog if not rag;", 11);
         faulty("dog if 1 not = 1 rag;", 9);
         faulty("dog if () rag;", 8);
@@ -193,6 +240,15 @@ public final class RulesBoundsTest extends Bounds {
         holds("looked=4", true);
         holds("fog=3", true);
         holds("number=5", true);
+        // on the right, too, and beside one another
+        holds("2=minute", true);
+        holds("6=lights", true);
+        holds("4=looked", true);
+        holds("3=fog", true);
+        holds("5=number", true);
+        holds("3=minute or 5=lights or 5=looked or 4=fog or 6=number", false);
+        holds("minute<fog and fog<looked and looked<number and number<lights", true);
+        holds("lights<minute or number<looked or looked<fog or fog=minute", false);
         holds("minute=1 or minute=3 or lights=7 or looked=3 or fog=2 or number=4", false);
         // in a MINUTE: MINUTE 0 goes by, FOG is 3 behind (1), so 7 LIGHTS are 6
         String[] one = {"pane(4, 127, 3) = 0", "lord(0, 2) = 0", "sheet(0, 0, 1) = 1", "write(0, 0, 1) = 1"};
@@ -347,6 +403,8 @@ public final class RulesBoundsTest extends Bounds {
         // an empty TAPE and one of blanks tell none
         run(with(one, "rules() = 0", "many(1) ? 0", "paneOf(0, 8) ? 0"));
         run(with(one, "tape  ", "rules() = 0", "many(1) ? 0", "paneOf(0, 8) ? 0"));
+        run("pane(4, 7, 0) = 0", "tape lad if not 1=1 rag;", "rules() = 1", "paneOf(0, 8) ? 0", "tape lad if 1=1 rag;", "rules() = 1", "paneOf(0, 8) ? 2");
+        run("pane(4, 7, 0) = 0", "tape dog rag;lad rag;", "rules() = 2", "paneOf(0, 8) ? 2", "tape dog pass;", "rules() = 1", "paneOf(0, 8) ? 0");
         run(with(one, "tape " + "lad pass;".repeat(8), "rules() = 8", "many(1) ? 8", "paneOf(0, 8) ? 1"));
     }
 

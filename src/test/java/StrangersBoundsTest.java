@@ -77,6 +77,16 @@ public final class StrangersBoundsTest extends Bounds {
         run("report(0, 0, 8, 8) = 0", "report(1, 0, 0, 0) = 1", "report(2, 0, 8, 8) = 2", "who(0) ? 1", "who(1) ? 3", "who(2) ? 255");
     }
 
+    @Remark("Terms 3: A STRANGER is a KIND (1 to 5) and a SCENE at first.")
+    void liarsByTheFirstAndTheLastKind() {
+        // but for the last REPORT a navvy's 1, which goes to 128, would fit, and no other KIND's
+        run("report(0, 1, 1, 1) = 0", "report(0, 0, 1, 1) = 1", "report(0, 0, 1, 1) = 2", "report(1, 1, 0, 0) = 3", "who(0) ? 1", "who(1) ? 1", "report(0, 0, 2, 2) = 4", "liar() ? 4");
+        // a dog alone
+        run("report(0, 0, 0, 0) = 0", "report(3, 1, 15, 15) = 1", "report(0, 0, 0, 0) = 2", "who(1) ? 5", "report(0, 0, 1, 1) = 3", "liar() ? 3");
+        // a pane's 1 goes to 2, but KIND 0 is no STRANGER's; without the first REPORT a navvy's 4 would fit
+        run("report(0, 1, 1, 1) = 0", "report(0, 0, 1, 1) = 1", "report(1, 1, 2, 2) = 2", "who(0) ? 0", "liar() ? 0");
+    }
+
     @Remark("Terms 3: Those that FIT: by which each REPORT is so.")
     void fitEachReport() {
         // the first, the last of six is not so
