@@ -531,6 +531,8 @@ public final class EveningBoundsTest extends Bounds {
     void remakeBounds() {
         inHouse("remake(0, 0) ! -1", "remake(0, 6) ! -1", "remake(-1, 1) ! -1", "remake(5, 1) ! -1", "remake(MIN, MAX) ! -1", "remake(0, 5) = 1",
             "paneOf(0, 0) ? 5", "remake(0, 1) = 5", "paneOf(0, 0) ? 1", "remake(4, 2) = 3");
+        // the KIND that it has already is none of the numbers that are refused (a reading: NOTES.md)
+        inHouse("remake(4, 3) = 3", "paneOf(4, 0) ? 3");
         // what is not its KIND stays
         alike(with(HOUSE, "remake(4, 5) = 3", "remake(4, 3) = 5"), HOUSE);
     }
