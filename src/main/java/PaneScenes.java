@@ -12,6 +12,8 @@ public final class PaneScenes {
     private static final int HOLDS_NOTHING = 0, HOLDS_PANE = 1, HOLDS_ROW = 2;
     private static final int LOOK = 0, RAG = 2;
     private static final int FIRST_PURSE = 60;
+    /** More lights than change on any TOUR, on which each PANE has eight at most. */
+    private static final int BEYOND_TOURS = 8 * MOST_PANES + 1;
 
     /** For each KIND the set of those that are it or above it. */
     private static final int[] LINE = {1, 3, 5, 13, 17, 49};
@@ -389,7 +391,7 @@ public final class PaneScenes {
 
     /** The fewest lights that change on the way from a SCENE to those of all PANES left; each level has one less. */
     private int fewestLights(int scene, int left) {
-        int fewest = left == 0 ? 0 : Integer.MAX_VALUE;
+        int fewest = left == 0 ? 0 : BEYOND_TOURS;
         for (int k = 0; k < evening.panes; k++) {
             if ((left >> k & 1) == 1) {
                 fewest = Math.min(fewest, lightsBy(k, scene, left));

@@ -103,7 +103,29 @@ public final class LanguageTest {
             check("import " + imports.group(1), imports.group(1).equals("java.util.Arrays"));
         }
         check("signs 1 to 127 alone", text.chars().allMatch(c -> c > 0 && c < 128));
+        library(bare);
         lengths(text);
+    }
+
+    /** LANGUAGE.md, rule 4: "The library: only what stands here." */
+    private static final String LIBRARY = "java\\.lang\\.Object\\.<init>"
+        + "|java\\.lang\\.String\\.(<init>|length|charAt|isEmpty|equals|indexOf|substring|toCharArray)"
+        + "|java\\.lang\\.StringBuilder\\.(<init>|append|charAt|setCharAt|setLength|deleteCharAt|reverse|length|toString)"
+        + "|java\\.util\\.(Array)?List\\.(<init>|add|get|set|remove|size|isEmpty|clear|of)"
+        + "|java\\.lang\\.(Integer|Long|Math)\\.[a-z]\\w*(?<!Exact)"
+        + "|java\\.lang\\.System\\.arraycopy|java\\.util\\.Arrays\\.(copyOf|copyOfRange|fill)|\\[+\\w\\.clone";
+
+    private static void library(String bare) throws Exception {
+        List<Class<?>> all = new ArrayList<>(List.of(PaneScenes.class.getDeclaredClasses()));
+        all.add(PaneScenes.class);
+        for (Class<?> each : all) {
+            for (String named : ClassFile.library(each)) {
+                check(each + " uses " + named + ", which rule 4 has not", named.matches(LIBRARY));
+            }
+        }
+        // javac puts a constant's number in its place, so that only the source tells it: rule 4 has functions alone
+        Matcher constants = Pattern.compile("\\b(Integer|Long|Math)\\.\\w+\\b(?!\\()").matcher(bare);
+        check("no constant of Integer, Long, Math", !constants.find());
     }
 
     private static void lengths(String text) {
